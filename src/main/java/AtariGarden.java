@@ -562,7 +562,7 @@ public final class AtariGarden {
             return result == GOES_ON;
         }
 
-        boolean isBetween(int player) {
+        boolean isPlayedBy(int player) {
             return first == player || second == player;
         }
 
@@ -675,7 +675,7 @@ public final class AtariGarden {
         private boolean isBusy(int player) {
             for (int i = 0; i < matches.length; i++) {
                 Match match = matches[i];
-                if (match != null && match.goesOn() && match.isBetween(player)) {
+                if (match != null && match.goesOn() && match.isPlayedBy(player)) {
                     return true;
                 }
             }
@@ -715,7 +715,7 @@ public final class AtariGarden {
             int string = 0;
             for (int i = 0; i < count && i < ended.length; i++) {
                 Match match = ended[i];
-                if (match == null || match.annulled || !match.isBetween(player)) {
+                if (match == null || match.annulled || !match.isPlayedBy(player)) {
                     continue;
                 }
                 string = match.winner() == player ? Math.max(string, 0) + 1 : Math.min(string, 0) - 1;
@@ -900,7 +900,7 @@ public final class AtariGarden {
             if (count + missing > twigs.length) {
                 return -1;
             }
-            for (int i = 0; i < twigs.length; i++) {
+            for (int i = 0; i < twigs.length && i < twins.length; i++) {
                 Twig twig = twigs[i];
                 if (twig != null && twig.lesson == source.number) {
                     Twig twin = twinOrNew(twig, target);
@@ -915,7 +915,7 @@ public final class AtariGarden {
 
         private int countMissing(Twig source, Twig target) {
             int missing = 0;
-            for (int i = 0; i < twigs.length; i++) {
+            for (int i = 0; i < twigs.length && i < twins.length; i++) {
                 Twig twig = twigs[i];
                 if (twig != null && twig.lesson == source.number) {
                     twins[i] = twinOf(twig, target);

@@ -1,42 +1,45 @@
+import com.sun.management.ThreadMXBean;
 import java.lang.management.ManagementFactory;
-import java.util.Random;
 
-/** A run of 512 calls has to fit into one room; this one stays far below it. */
+/** All calls of a run live in one room of 7.3 million fields and elements; this keeps far below it. */
 public final class RoomTest {
-    private static final long MOST_BYTES = 1_000_000;
+    private static final long MOST_BYTES = 200_000;
+    private static final ThreadMXBean THREADS = (ThreadMXBean) ManagementFactory.getThreadMXBean();
 
     public static void main(String[] args) {
-        long used = run();
-        used = Math.min(used, run());
+        longRun();
+        long before = THREADS.getCurrentThreadAllocatedBytes();
+        longRun();
+        long used = THREADS.getCurrentThreadAllocatedBytes() - before;
+        System.out.println(used + " bytes in a long run");
         Check check = new Check();
-        System.out.println(used + " bytes in a run of 512 calls");
         check.same("a run keeps to its room", 1, used < MOST_BYTES ? 1 : 0);
         check.close();
     }
 
-    private static long taken() {
-        return ((com.sun.management.ThreadMXBean) ManagementFactory.getThreadMXBean()).getCurrentThreadAllocatedBytes();
-    }
-
-    private static long run() {
-        Random random = new Random(7);
-        int[] points = random.ints(512, 0, 49).toArray();
+    /** As many players, games and nodes as there can be, a board full of stones, and the dearest readings. */
+    private static void longRun() {
         AtariGarden x = new AtariGarden();
-        long before = taken();
         for (int i = 0; i < 8; i++) {
-            x.player(i);
+            x.player(5);
         }
-        for (int g = 0; g < 16; g++) {
+        for (int g = 0; g < 15; g++) {
             x.game(g % 2, 2 + g % 3, 3600, 5, 60);
             x.resign(g);
-            x.lesson(g, 0);
-            x.branch(2 * g, 5);
+            x.judge(g);
         }
-        x.judge(0);
-        x.settle();
-        for (int i = 80; i < 512; i++) {
-            x.ladder(15, points[i], 8);
+        x.game(6, 7, 3600, 5, 60);
+        for (int point = 0; point < 48; point++) {
+            x.play(15, point, 0);
+            x.pass(15, 0);
         }
-        return taken() - before;
+        for (int i = 0; i < 60; i++) {
+            x.lesson(15, i);
+        }
+        for (int i = 0; i < 250; i++) {
+            x.ladder(15, i % 49, 8);
+            x.net(15, i % 49, 3);
+            x.settle();
+        }
     }
 }
