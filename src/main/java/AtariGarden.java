@@ -327,7 +327,7 @@ public final class AtariGarden {
          * spot of one of its stones.
          */
         private static boolean caught(long prey, long hunter, long spot, int moves, int most) {
-            if (moves < 1) {
+            if (moves < 1 || moves > LONGEST_LADDER) {
                 return false;
             }
             long stones = prey | hunter;
