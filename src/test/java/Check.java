@@ -9,6 +9,8 @@ final class Check {
     static final long ILLEGAL_ARGUMENT = Long.MIN_VALUE + 2;
     static final long ILLEGAL_STATE = Long.MIN_VALUE + 3;
     static final long OTHER = Long.MIN_VALUE + 4;
+    /** What is less stands for an exception. */
+    static final long LEAST_ANSWER = Integer.MIN_VALUE;
 
     private int checked;
     private int wrong;
