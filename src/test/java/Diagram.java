@@ -25,6 +25,24 @@ final class Diagram {
         return order;
     }
 
+    /** Stones of one sign on all points but the last one. */
+    static String[] fullOf(char sign) {
+        String[] rows = new String[7];
+        for (int row = 0; row < 7; row++) {
+            rows[row] = String.valueOf(sign).repeat(row < 6 ? 7 : 6) + (row < 6 ? "" : ".");
+        }
+        return rows;
+    }
+
+    /** The same position turned round, so that point 0 becomes point 48. */
+    static String[] turned(String... rows) {
+        String[] turned = new String[rows.length];
+        for (int row = 0; row < rows.length; row++) {
+            turned[row] = new StringBuilder(rows[rows.length - 1 - row]).reverse().toString();
+        }
+        return turned;
+    }
+
     private static boolean canFollow(String[] rows, int point, List<Integer> order) {
         for (int neighbour : Model.neighbours(point)) {
             if (at(rows, neighbour) == '.' || order.contains(neighbour)) {

@@ -6,6 +6,9 @@ class Edges extends Steps {
     static final long BAD_ARGUMENT = Check.ILLEGAL_ARGUMENT;
     static final long NOT_NOW = Check.ILLEGAL_STATE;
 
+    static final String[] FULL_OF_BLACK = Diagram.fullOf('X');
+    static final String[] FULL_OF_WHITE = Diagram.fullOf('O');
+
     /** A call with one of its arguments left open. */
     interface Open {
         Step with(int argument);
@@ -48,6 +51,29 @@ class Edges extends Steps {
     /** A game that went on when it was judged by settle(): game 3 of players 0 and 1. */
     Scene settledWhileGoingOn(String sentence) {
         return club(sentence, 4, 5).lost(0, 1, 3).with(game(0, 1, 3600, 5, 60), judge(0), settle());
+    }
+
+    /** White's eighth move takes black's stone on 9 in a ko; black is to move and may not take back. */
+    Scene ko(String sentence) {
+        return even(sentence).moves(0, 1, 2, 7, 10, 15, 16, 9).then(1, play(0, 8, 0));
+    }
+
+    /**
+     * A game with the handicap 2, in which white takes both stones and puts its own on all points but
+     * 16; then black's stone there takes them all. Black is to move, and but for its stone on 16 the
+     * board is empty.
+     */
+    Scene emptiedBoard(String sentence) {
+        Scene scene = club(sentence, 5, 7).with(game(0, 1, 3600, 5, 60));
+        for (int point : new int[] {9, 15, 17, 23, 25, 31, 33, 39}) {
+            scene.with(play(0, point, 0), pass(0, 0));
+        }
+        for (int point = 0; point < 48; point++) {
+            if (point != 16 && scene.outcome(sign(0, point)) == '.') {
+                scene.with(play(0, point, 0), pass(0, 0));
+            }
+        }
+        return scene.with(play(0, 48, 0)).then(48, play(0, 16, 0)).with(pass(0, 0));
     }
 
     /** So many nodes, each the beginning of a lesson at game 0. */

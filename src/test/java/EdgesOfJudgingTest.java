@@ -33,17 +33,6 @@ public final class EdgesOfJudgingTest extends Edges {
         test.check.close();
     }
 
-    /** A game between two players of which this one loses, whoever is to move first. */
-    private Scene lostBy(int loser, Scene s, int first, int second) {
-        Step begin = game(first, second, 3600, 5, 60);
-        int number = (int) s.outcome(begin);
-        s.with(begin);
-        long pairing = s.outcome(handicap(number));
-        boolean loserIsBlack = pairing / 100 == loser;
-        boolean blackMoves = pairing % 10 < 2;
-        return loserIsBlack == blackMoves ? s.with(resign(number)) : s.with(pass(number, 0), resign(number));
-    }
-
     /** Games of 0 and 1 behind which game 3 begins by other ranks than without game 0. */
     private Scene threeLost(String sentence) {
         return club(sentence, 4, 5).lost(0, 1, 3);
@@ -97,8 +86,7 @@ public final class EdgesOfJudgingTest extends Edges {
 
     private void blackOff() {
         Scene s = club("Ranks: off by who is black alone", 5, 4);
-        lostBy(0, lostBy(0, lostBy(0, s, 0, 1), 0, 1), 0, 1);
-        lostBy(1, s, 0, 1).answers(11, handicap(3));
+        s.lost(0, 1, 3).lostBy(1, 0, 1).answers(11, handicap(3));
         s.then(1 << 3, judge(1)).answers(101, due(3));
     }
 
@@ -128,13 +116,8 @@ public final class EdgesOfJudgingTest extends Edges {
 
     /** The third loss of 1 comes with game 3 without game 1; the sixth game fits again if game 4 is void. */
     private Scene threeWays(String sentence) {
-        Scene s = club(sentence, 6, 6, 6);
-        lostBy(1, s, 1, 0);
-        lostBy(0, s, 0, 1);
-        lostBy(1, s, 1, 2);
-        lostBy(1, s, 1, 0);
-        lostBy(1, s, 0, 1);
-        return lostBy(0, s, 0, 1);
+        Scene s = club(sentence, 6, 6, 6).lostBy(1, 1, 0).lostBy(0, 0, 1).lostBy(1, 1, 2);
+        return s.lostBy(1, 1, 0).lostBy(1, 0, 1).lostBy(0, 0, 1);
     }
 
     /** Fifteen games, of which the first three are 0's losses, and a sixteenth that goes on. */
@@ -156,7 +139,7 @@ public final class EdgesOfJudgingTest extends Edges {
     private Scene byTurns(String sentence) {
         Scene s = threeLost(sentence);
         for (int game = 3; game < 15; game++) {
-            lostBy(game % 2, s, 0, 1);
+            s.lostBy(game % 2, 0, 1);
         }
         return s.with(game(0, 1, 60, 1, 10));
     }
@@ -266,8 +249,7 @@ public final class EdgesOfJudgingTest extends Edges {
 
     private void offByALowerOne() {
         Scene s = club("Promise 17: and so on, until none is off", 6, 6);
-        lostBy(1, lostBy(1, lostBy(1, s, 0, 1), 1, 0), 0, 1);
-        lostBy(0, lostBy(1, s, 1, 0), 1, 0);
+        s.lostBy(1, 0, 1).lostBy(1, 1, 0).lostBy(1, 0, 1).lostBy(1, 1, 0).lostBy(0, 1, 0);
         s.then(1 << 3, judge(2)).then(2, settle()).answers(12, state(3));
         s.answers(11, state(4));
         s.answers(0, settle());

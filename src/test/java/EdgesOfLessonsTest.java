@@ -19,6 +19,7 @@ public final class EdgesOfLessonsTest extends Edges {
         test.branchBySuicide();
         test.branchByTaking();
         test.superkoOfTheGame();
+        test.superkoOfTheGamesBeginning();
         test.superkoOfTheBeginning();
         test.superkoOnTheWay();
         test.noSuperkoOfLaterMoves();
@@ -49,10 +50,6 @@ public final class EdgesOfLessonsTest extends Edges {
             s.then(node, branch(node - 1, -1));
         }
         return s;
-    }
-
-    private Scene ko(String sentence) {
-        return even(sentence).moves(0, 1, 2, 7, 10, 15, 16, 9, 8);
     }
 
     // ---- Promise 20
@@ -196,6 +193,17 @@ public final class EdgesOfLessonsTest extends Edges {
         s.with(branch(0, 40), branch(1, 41)).answers(3, branch(2, 9));
         Scene early = even("Promise 21: superko, whoever is to move").moves(0, 7, 1, 8, 9, 48, 3, 47, 0, 2).with(lesson(0, 9));
         early.refuses(NOT_NOW, branch(0, 1));
+    }
+
+    private void superkoOfTheGamesBeginning() {
+        Scene s = emptiedBoard("Promise 21: superko, the position at the game's beginning");
+        int moves = 0;
+        while (s.outcome(lesson(0, moves + 1)) == 0) {
+            moves++;
+        }
+        s.with(lesson(0, moves)).refuses(NOT_NOW, branch(0, 32));
+        s.answers(1, branch(0, 31));
+        s.with(branch(0, 0), branch(1, -1)).answers(3, branch(2, 32));
     }
 
     private void superkoOfTheBeginning() {

@@ -1,24 +1,5 @@
 /** Promises 8 to 14, and what "Games" says of the clock and of counting: each boundary case. */
 public final class EdgesOfLooksTest extends Edges {
-    private static final String[] FULL_OF_BLACK = {
-        "XXXXXXX",
-        "XXXXXXX",
-        "XXXXXXX",
-        "XXXXXXX",
-        "XXXXXXX",
-        "XXXXXXX",
-        "XXXXXX.",
-    };
-    private static final String[] FULL_OF_WHITE = {
-        "OOOOOOO",
-        "OOOOOOO",
-        "OOOOOOO",
-        "OOOOOOO",
-        "OOOOOOO",
-        "OOOOOOO",
-        "OOOOOO.",
-    };
-
     public static void main(String[] args) {
         EdgesOfLooksTest test = new EdgesOfLooksTest();
         test.gameOfState();

@@ -6,6 +6,7 @@ public final class EdgesOfMergesTest extends Edges {
         test.noSuchNodesAmongSixty();
         test.bothTheSame();
         test.noBeginnings();
+        test.noBeginningThoughAtTheSameMoves();
         test.otherGame();
         test.otherNumberOfMoves();
         test.sameNumberOfMovesLater();
@@ -70,6 +71,11 @@ public final class EdgesOfMergesTest extends Edges {
         s.with(branch(0, 0), branch(1, 0), branch(2, -1));
         s.refuses(BAD_ARGUMENT, merge(2, 1), merge(1, 2), merge(2, 3), merge(2, 0), merge(0, 2), merge(4, 0));
         s.answers(1, merge(0, 1));
+    }
+
+    private void noBeginningThoughAtTheSameMoves() {
+        Scene s = even("Promise 24: a node at the same number of moves that is no beginning").moves(0, 24);
+        s.with(lesson(0, 0), branch(0, 24), lesson(0, 1)).refuses(BAD_ARGUMENT, merge(1, 2), merge(2, 1));
     }
 
     private void otherGame() {

@@ -34,6 +34,7 @@ public final class EdgesOfMovesTest extends Edges {
         test.koLater();
         test.positionOfOtherTurn();
         test.positionOfLongAgo();
+        test.positionAtTheBeginning();
         test.positionOfAnotherGame();
         test.passingRepeatsAPosition();
         test.lateStone();
@@ -137,14 +138,7 @@ public final class EdgesOfMovesTest extends Edges {
     }
 
     private void suicideOfAll() {
-        Scene s = even("The board: suicide by the last empty point of all").board(0,
-                "OOOOOOO",
-                "OOOOOOO",
-                "OOOOOOO",
-                "OOOOOOO",
-                "OOOOOOO",
-                "OOOOOOO",
-                "OOOOOO.").with(pass(0, 0));
+        Scene s = even("The board: suicide by the last empty point of all").board(0, FULL_OF_WHITE).with(pass(0, 0));
         s.refuses(NOT_NOW, play(0, 48, 0));
     }
 
@@ -209,14 +203,7 @@ public final class EdgesOfMovesTest extends Edges {
     }
 
     private void mostStonesTaken() {
-        Scene s = even("The board: a chain that is all of it but for one point").board(0,
-                "OOOOOOO",
-                "OOOOOOO",
-                "OOOOOOO",
-                "OOOOOOO",
-                "OOOOOOO",
-                "OOOOOOO",
-                "OOOOOO.");
+        Scene s = even("The board: a chain that is all of it but for one point").board(0, FULL_OF_WHITE);
         s.then(48, play(0, 48, 0)).answers('X', sign(0, 48));
         s.answers('.', sign(0, 0));
         s.answers(2, liberties(0, 48));
@@ -236,10 +223,6 @@ public final class EdgesOfMovesTest extends Edges {
     }
 
     // ---- superko
-
-    private Scene ko(String sentence) {
-        return even(sentence).moves(0, 1, 2, 7, 10, 15, 16, 9).then(1, play(0, 8, 0));
-    }
 
     private void koAtOnce() {
         ko("Games: the position of two moves ago").refuses(NOT_NOW, play(0, 9, 0));
@@ -263,6 +246,13 @@ public final class EdgesOfMovesTest extends Edges {
         }
         s.refuses(NOT_NOW, play(0, 27, 0));
         s.moves(0, 24, 25).answers(1, play(0, 27, 0));
+    }
+
+    private void positionAtTheBeginning() {
+        Scene s = emptiedBoard("Games: the position at the beginning included");
+        s.refuses(NOT_NOW, play(0, 32, 0));
+        s.answers(0, play(0, 31, 0));
+        s.moves(0, 0, -1).answers(0, play(0, 32, 0));
     }
 
     private void positionOfAnotherGame() {

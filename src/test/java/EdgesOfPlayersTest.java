@@ -15,6 +15,7 @@ public final class EdgesOfPlayersTest extends Edges {
         test.lossEndsWins();
         test.highestRank();
         test.lowestRank();
+        test.whoHasWon();
         test.endsThatCount();
         test.endsThatDoNotCount();
         test.noSuchFirst();
@@ -138,6 +139,19 @@ public final class EdgesOfPlayersTest extends Edges {
         s.lost(1, 0, 3).answers(10, rank(0));
         Scene t = club("Ranks: down to 0", 1, 5).lost(0, 1, 3);
         t.answers(0, rank(0));
+    }
+
+    private void whoHasWon() {
+        Scene black = club("Ranks: black has won, with the lower number or the higher one", 5, 5, 5, 5, 5, 5, 5, 5);
+        black.with(game(0, 1, 60, 1, 10), pass(0, 0), resign(0), game(3, 2, 60, 1, 10), pass(1, 0), resign(1));
+        black.with(game(7, 6, 60, 1, 10), pass(2, 0), resign(2), game(5, 4, 60, 1, 10), resign(3));
+        int[] due = {51, 56, 56, 51, 51, 56, 56, 51};
+        for (int player = 0; player < 8; player++) {
+            black.answers(due[player], rank(player));
+        }
+        Scene one = club("Ranks: black has won, 1 against 0", 5, 5).with(game(1, 0, 60, 1, 10), pass(0, 0), resign(0));
+        one.answers(51, rank(1));
+        one.answers(56, rank(0));
     }
 
     private void endsThatCount() {

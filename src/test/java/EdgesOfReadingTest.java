@@ -25,8 +25,10 @@ public final class EdgesOfReadingTest extends Edges {
         test.longerThanTheLongestNet();
         test.movesBesideTheLiberties();
         test.noMovesFartherOff();
+        test.moveOnTheFirstOrLastPoint();
         test.suicideOfTheCatcher();
         test.noCatchingByAMoveThatIsSuicide();
+        test.answerOnTheFirstOrLastPoint();
         test.answerByTaking();
         test.noAnswerByTakingFarOff();
         test.noAnswerByTwoLiberties();
@@ -223,6 +225,31 @@ public final class EdgesOfReadingTest extends Edges {
         noNet(s, 0);
     }
 
+    private void moveOnTheFirstOrLastPoint() {
+        String[] ladder = {
+            ".X.....",
+            "OOX....",
+            "..O....",
+            ".......",
+            ".......",
+            ".......",
+            ".......",
+        };
+        ladderFrom(even("Reading: a move on point 0").board(0, ladder), 1, 3);
+        ladderFrom(even("Reading: a move on point 48").board(0, Diagram.turned(ladder)), 47, 3);
+        String[] net = {
+            ".O.....",
+            "XO.....",
+            ".XO....",
+            "XXXO...",
+            ".OO....",
+            ".......",
+            ".......",
+        };
+        netFrom(even("Reading: a net's move on point 0").board(0, net), 7, 2);
+        netFrom(even("Reading: a net's move on point 48").board(0, Diagram.turned(net)), 41, 2);
+    }
+
     private void suicideOfTheCatcher() {
         Scene s = even("Reading: suicide is not allowed, two eyes").board(0,
                 ".X.XO..",
@@ -250,6 +277,31 @@ public final class EdgesOfReadingTest extends Edges {
     }
 
     // ---- the answers
+
+    private void answerOnTheFirstOrLastPoint() {
+        String[] ladder = {
+            ".XO....",
+            "X......",
+            "X......",
+            ".......",
+            ".......",
+            ".......",
+            ".......",
+        };
+        ladderFrom(even("Reading: an answer on point 0").board(0, ladder), 1, 6);
+        ladderFrom(even("Reading: an answer on point 48").board(0, Diagram.turned(ladder)), 47, 6);
+        String[] net = {
+            ".......",
+            "X......",
+            ".O.....",
+            "O......",
+            ".......",
+            ".......",
+            ".......",
+        };
+        netFrom(even("Reading: an answer in a net on point 0").board(0, net), 7, 3);
+        netFrom(even("Reading: an answer in a net on point 48").board(0, Diagram.turned(net)), 41, 3);
+    }
 
     private void answerByTaking() {
         Scene s = even("Reading: an answer takes a chain beside that has one liberty").board(0,
@@ -349,8 +401,7 @@ public final class EdgesOfReadingTest extends Edges {
     // ---- superko, turns, colours
 
     private void superkoForTheCatcher() {
-        Scene s = even("Reading: superko does not count for the side that catches");
-        s.moves(0, 1, 2, 7, 10, 15, 16, 9).then(1, play(0, 8, 0));
+        Scene s = ko("Reading: superko does not count for the side that catches");
         s.refuses(NOT_NOW, play(0, 9, 0));
         ladderFrom(s, 8, 1);
         netFrom(s, 8, 1);

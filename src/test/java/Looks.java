@@ -6,7 +6,7 @@ import java.util.List;
  * taken at a club of its own.
  */
 final class Looks extends Steps {
-    private static final int MOST_MOVES = 100;
+    private static final int MOST_MOVES = 120;
 
     private final List<List<Step>> looks = new ArrayList<>();
     private List<Step> look;
@@ -25,6 +25,7 @@ final class Looks extends Steps {
         all.madeMoves(games);
         all.freeNumbers();
         all.children(nodes);
+        all.merges(nodes);
         all.judging();
         return all.looks;
     }
@@ -124,6 +125,18 @@ final class Looks extends Steps {
             look.add(branch(node, -1));
             look.add(branch(node, 0));
             look.add(branch(node, 24));
+        }
+    }
+
+    private void merges(int nodes) {
+        next();
+        for (int from = 0; from < nodes && from < 5; from++) {
+            for (int into = 0; into < nodes && into < 5; into++) {
+                look.add(merge(from, into));
+            }
+        }
+        for (int node = 0; node < 60; node++) {
+            look.add(node(node));
         }
     }
 

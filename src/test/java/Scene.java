@@ -36,20 +36,26 @@ final class Scene {
         return this;
     }
 
-    /** Begins games that the first player loses against the second by resigning. */
+    /** Games in which the loser, who is told first, resigns. */
     Scene lost(int loser, int winner, int games) {
         for (int i = 0; i < games; i++) {
-            Step begin = Steps.game(loser, winner, 3600, 5, 60);
-            int number = (int) outcome(begin);
-            with(begin);
-            long black = outcome(Steps.handicap(number)) / 100;
-            boolean loserMoves = (outcome(Steps.handicap(number)) % 10 < 2) == (black == loser);
-            if (!loserMoves) {
-                with(Steps.pass(number, 0));
-            }
-            with(Steps.resign(number));
+            lostBy(loser, loser, winner);
         }
         return this;
+    }
+
+    /** A game of both in which the loser, one of them, resigns. */
+    Scene lostBy(int loser, int first, int second) {
+        Step begin = Steps.game(first, second, 3600, 5, 60);
+        int number = (int) outcome(begin);
+        with(begin);
+        long pairing = outcome(Steps.handicap(number));
+        boolean loserIsBlack = pairing / 100 == loser;
+        boolean blackMoves = pairing % 10 < 2;
+        if (loserIsBlack != blackMoves) {
+            with(Steps.pass(number, 0));
+        }
+        return with(Steps.resign(number));
     }
 
     /** Puts the stones of an empty board on which black moves first, so that none is taken. */
@@ -169,7 +175,8 @@ final class Scene {
         looks = null;
     }
 
-    private AtariGarden made(int more) {
+    /** A new club behind these calls, for so many more. */
+    AtariGarden made(int more) {
         if (steps.size() + more > MOST_CALLS) {
             throw new AssertionError(sentence + ": nothing is promised about so many calls");
         }
