@@ -44,6 +44,7 @@ public final class EdgesOfMovesTest extends Edges {
         test.passAtTheEnd();
         test.orderForPass();
         test.oneBehindTheOther();
+        test.oneBehindTheOtherAtTheBeginning();
         test.stoneBetweenPassings();
         test.refusedBetweenPassings();
         test.latePassing();
@@ -319,6 +320,13 @@ public final class EdgesOfMovesTest extends Edges {
         s.then(2, pass(0, 0)).answers(2, state(0));
         s.answers(0, lesson(0, 2));
         s.refuses(BAD_ARGUMENT, lesson(0, 3));
+    }
+
+    private void oneBehindTheOtherAtTheBeginning() {
+        for (int rank = 5; rank <= 9; rank++) {
+            Scene s = club("Games: two passings at the beginning, ranks 5 and " + rank, 5, rank).with(game(0, 1, 60, 1, 10));
+            s.then(0, pass(0, 0)).answers(rank < 7 ? 2 : 1, pass(0, 0));
+        }
     }
 
     private void stoneBetweenPassings() {

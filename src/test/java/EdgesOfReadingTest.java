@@ -30,6 +30,7 @@ public final class EdgesOfReadingTest extends Edges {
         test.noCatchingByAMoveThatIsSuicide();
         test.answerOnTheFirstOrLastPoint();
         test.answerByTaking();
+        test.answerByTakingAChain();
         test.noAnswerByTakingFarOff();
         test.noAnswerByTwoLiberties();
         test.suicideIsNoAnswer();
@@ -314,6 +315,26 @@ public final class EdgesOfReadingTest extends Edges {
                 ".......");
         noLadder(s, 7);
         noNet(s, 7);
+    }
+
+    /** Behind white's 8 black can take three stones on 15; without that it is caught on the edge. */
+    private void answerByTakingAChain() {
+        String[] rows = {
+            "XOOX...",
+            "X.X....",
+            ".......",
+            ".......",
+            "O......",
+            ".......",
+            ".......",
+        };
+        Scene s = even("Reading: an answer takes a chain beside of more than one stone").board(0, rows);
+        noLadder(s, 0);
+        noNet(s, 0);
+        rows[0] = "XOO....";
+        Scene t = even("Reading: that chain has another liberty").board(0, rows);
+        ladderFrom(t, 0, 3);
+        netFrom(t, 0, 3);
     }
 
     private void noAnswerByTakingFarOff() {
