@@ -14,6 +14,7 @@ public final class EdgesOfJudgingTest extends Edges {
         test.voidIsNotOff();
         test.onceOffAndFitsAgain();
         test.lastGameOff();
+        test.offByTheGameAhead();
         test.mostOff();
         test.ranksFoundAnew();
         test.limitsFoundAnew();
@@ -133,6 +134,19 @@ public final class EdgesOfJudgingTest extends Edges {
         Scene s = lastByRanks("Promise 15: bit 15 for game 15");
         s.answers(13, handicap(15));
         s.then(1 << 15, judge(0)).answers(11, due(15));
+    }
+
+    /** Twelve games that 0 and 1 win by turns, then three losses of 0, and a sixteenth game. */
+    private void offByTheGameAhead() {
+        Scene s = club("Promise 15: game 15 is off by game 14 alone", 4, 5);
+        for (int game = 0; game < 12; game++) {
+            s.lostBy(game % 2, 0, 1);
+        }
+        s.lost(0, 1, 3).with(game(0, 1, 60, 1, 10)).answers(13, handicap(15));
+        s.then(1 << 15, judge(14)).answers(11, due(15));
+        s.then(1, settle()).answers(12, state(15));
+        s.answers(47, rank(0));
+        s.answers(52, rank(1));
     }
 
     /** Thirteen games behind three losses, in which 0 and 1 win by turns; 15 goes on. */
@@ -293,5 +307,8 @@ public final class EdgesOfJudgingTest extends Edges {
         s.answers(47, rank(0));
         s.answers(52, rank(1));
         s.answers(0, settle());
+        Scene ended = byTurns("Promise 17: all 16 games have ended").with(resign(15)).then(0, settle());
+        ended.with(judge(0)).then(13, settle()).answers(0, settle());
+        ended.answers(47, rank(0));
     }
 }

@@ -34,6 +34,7 @@ public final class EdgesOfLessonsTest extends Edges {
         test.markOfMark();
         test.orderForMark();
         test.markBefore();
+        test.markOfAParent();
         test.nodeOfNode();
         test.moveOfANode();
         test.childrenOfANode();
@@ -299,6 +300,17 @@ public final class EdgesOfLessonsTest extends Edges {
         s.then(0, mark(0, 3, 2)).then(0, mark(1, 0, 1)).then(0, mark(0, 1, 0));
         s.then(3, mark(0, 0, 0)).then(0, mark(0, 0, 0)).then(2, mark(0, 3, 0));
         s.answers(1, mark(1, 0, 0));
+    }
+
+    private void markOfAParent() {
+        Scene s = sixteenGames("Promise 22: a node of game 15 with many children").with(lesson(15, 0));
+        for (int point = 0; point < 20; point++) {
+            s.with(branch(0, point));
+        }
+        for (int teacher = 0; teacher < 4; teacher++) {
+            s.then(0, mark(0, teacher, 3)).then(3, mark(0, teacher, 1)).answers(1, mark(0, teacher, 0));
+        }
+        s.with(mark(0, 0, 2)).answers(20001, node(0));
     }
 
     // ---- Promise 23

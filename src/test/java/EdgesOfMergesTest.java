@@ -26,6 +26,7 @@ public final class EdgesOfMergesTest extends Edges {
         test.marksThatAreTaken();
         test.marksThatAreNotTaken();
         test.marksOfNewNodes();
+        test.marksOfParents();
         test.clashByMerging();
         test.mergedLessonStays();
         test.mergedTwiceAndBack();
@@ -251,6 +252,18 @@ public final class EdgesOfMergesTest extends Edges {
         s.answers(2, mark(3, 1, 0));
         s.answers(3, mark(3, 2, 0));
         s.answers(0, mark(3, 3, 0));
+    }
+
+    private void marksOfParents() {
+        Scene s = sixteenGames("Promise 24: marks of nodes of game 15 with many children").with(lesson(15, 0), lesson(15, 0));
+        for (int point = 0; point < 20; point++) {
+            s.with(branch(0, point), branch(1, point));
+        }
+        s.with(mark(0, 0, 1), mark(0, 3, 2), mark(1, 1, 3)).then(0, merge(0, 1)).answers(20001, node(1));
+        s.answers(1, mark(1, 0, 0));
+        s.answers(3, mark(1, 1, 0));
+        s.answers(0, mark(1, 2, 0));
+        s.answers(2, mark(1, 3, 0));
     }
 
     private void clashByMerging() {

@@ -18,6 +18,7 @@ public final class EdgesOfPlayersTest extends Edges {
         test.whoHasWon();
         test.endsThatCount();
         test.endsThatDoNotCount();
+        test.sixteenGamesCount();
         test.noSuchFirst();
         test.noSuchSecond();
         test.bothTheSame();
@@ -175,6 +176,15 @@ public final class EdgesOfPlayersTest extends Edges {
         Scene settled = settledWhileGoingOn("Ranks: a game that is void and never ended otherwise");
         settled.answers(47, rank(0));
         settled.answers(52, rank(1));
+    }
+
+    private void sixteenGamesCount() {
+        Scene s = club("Ranks: each of 16 games counts", 10, 20).lost(0, 1, 14);
+        s.answers(67, rank(0));
+        s.lost(0, 1, 1).answers(50, rank(0));
+        s.answers(200, rank(1));
+        s.lost(0, 1, 1).answers(56, rank(0));
+        s.answers(201, rank(1));
     }
 
     // ---- Promise 4
